@@ -170,6 +170,12 @@ public final class DeedsTest {
         CHECKS.due("the row turned again", Checks.row(x), "20");
         due("drop(2)", x.drop(2), 0);
         due("turn(), empty", x.turn(), NONE);
+        RowsAloud longer = Checks.desk("r1234567;");
+        due("turn() of seven", longer.turn(), 7);
+        CHECKS.due("seven turned", Checks.row(longer), "7654321");
+        longer.put(0);
+        due("turn() of eight", longer.turn(), 0);
+        CHECKS.due("eight turned", Checks.row(longer), "01234567");
         due("drop(0), empty", x.drop(0), 0);
         due("drop(1), empty", x.drop(1), OUTSIDE);
         due("change(0, 0), empty", x.change(0, 0), UNKNOWN);
@@ -206,6 +212,18 @@ public final class DeedsTest {
         due("the figure put", y.at(1), figure);
         due("seed behind putting", y.seed(0), next(next(start)));
 
+        // A reading of just 60 figures is still one.
+        RowsAloud sixty = Checks.desk("r" + "23".repeat(15) + ";");
+        sixty.seed(startOf(0));
+        due("drift(1) to 60", sixty.drift(1), 60);
+        due("it was read", sixty.told(4), 1);
+
+        int edge = edgeStart();
+        RowsAloud divided = Checks.desk("r1;");
+        divided.seed(edge);
+        divided.drift(1);
+        due("the kind drawn at the edge", divided.logged(0, 0), next(edge) / 65536 % 8);
+
         // A full row takes no figure, and no draw is made for one.
         RowsAloud full = Checks.desk("r" + "12".repeat(30) + ";");
         full.seed(start);
@@ -236,6 +254,17 @@ public final class DeedsTest {
 
     private static long next(long seed) {
         return (seed * 1103515245L + 12345L) % (1L << 31);
+    }
+
+    /** A seed whose next one draws a kind of reader that is another if it is divided by a little less. */
+    private static int edgeStart() {
+        for (int seed = 0; seed < 1000000; seed++) {
+            long drawn = next(seed) / 65536 % 8;
+            if (drawn < 5 && next(seed) / 65535 % 8 == drawn + 1) {
+                return seed;
+            }
+        }
+        return NONE;
     }
 
     private static int startOf(int draw) {

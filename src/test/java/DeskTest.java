@@ -126,6 +126,10 @@ public final class DeskTest {
         due("its fault", x.fault(), 0);
         due("a desk", Checks.lay(x, "r5;"), 1);
         due("no fault", x.fault(), NONE);
+        due("told(0), a desk of one figure", x.told(0), 1);
+        due("a text without an end", Checks.lay(x, "r12"), -11);
+        due("nothing of it is left in the next", Checks.lay(x, "r34;"), 2);
+        due("nor in its row", x.at(0), 3);
     }
 
     private static void promise5() {
@@ -153,6 +157,9 @@ public final class DeskTest {
         RowsAloud y = Checks.desk("r1223344;w1;");
         due("the longest of like runs", y.told(7), 2);
         due("the first of them", y.told(8), 2);
+        RowsAloud inside = Checks.desk("r3113333;");
+        due("the longest is the last", inside.told(7), 4);
+        due("of", inside.told(8), 3);
         RowsAloud z = Checks.desk("r0123456789;w0;");
         due("runs", z.told(6), 10);
         due("unlike", z.told(9), 10);

@@ -134,6 +134,8 @@ public final class TriedTest {
         falls(Checks.times('0', 10), 1, 9, 9);
         falls(Checks.times('0', 18), 1, 9, 9);
         falls(Checks.times('0', 60), 6, 9, 9);
+        // 91|91 is read 1911|1911, and then three ones are said across the place.
+        falls(Checks.times('1', 18), 0, NONE, 18);
         falls("8" + Checks.times('0', 12) + "7", 3, 1, 9);
         RowsAloud x = Checks.desk("r1;");
         for (int wrong : new int[] {LEAST, -1, 3, GREATEST}) {
