@@ -97,6 +97,11 @@ public final class HeardTest {
         due("one kind", one.couldBe(), 0b000010);
         due("ask() of one", one.ask(), NONE);
         due("ask() is no deed", one.told(13), 0);
+        RowsAloud plain = Checks.desk("r1;w4444;w44;w1311;w111321;w31;");
+        plain.hear(0, 1, true);
+        plain.hear(2, 3, true);
+        due("kind 0 alone", plain.couldBe(), 0b000001);
+        due("ask() of 0 alone", plain.ask(), NONE);
     }
 
     private static void promises31And32() {
