@@ -205,16 +205,16 @@ public final class DeedsTest {
         CHECKS.due("the same row by six draws at once", Checks.row(x), "121113311");
 
         RowsAloud y = Checks.desk("r1;");
-        int start = startOf(6);
+        int start = Draws.start(8, 6);
         y.seed(start);
-        int figure = (int) (next(next(start)) / 65536 % 10);
+        int figure = (int) (Draws.next(Draws.next(start)) / 65536 % 10);
         due("drift(1), putting", y.drift(1), 2);
         due("the figure put", y.at(1), figure);
-        due("seed behind putting", y.seed(0), next(next(start)));
+        due("seed behind putting", y.seed(0), Draws.next(Draws.next(start)));
 
         // A reading of just 60 figures is still one.
         RowsAloud sixty = Checks.desk("r" + "23".repeat(15) + ";");
-        sixty.seed(startOf(0));
+        sixty.seed(Draws.start(8, 0));
         due("drift(1) to 60", sixty.drift(1), 60);
         due("it was read", sixty.told(4), 1);
 
@@ -222,13 +222,13 @@ public final class DeedsTest {
         RowsAloud divided = Checks.desk("r1;");
         divided.seed(edge);
         divided.drift(1);
-        due("the kind drawn at the edge", divided.logged(0, 0), next(edge) / 65536 % 8);
+        due("the kind drawn at the edge", divided.logged(0, 0), Draws.next(edge) / 65536 % 8);
 
         // A full row takes no figure, and no draw is made for one.
         RowsAloud full = Checks.desk("r" + "12".repeat(30) + ";");
         full.seed(start);
         due("drift(1), full", full.drift(1), 60);
-        due("seed behind it", full.seed(startOf(0)), next(start));
+        due("seed behind it", full.seed(Draws.start(8, 0)), Draws.next(start));
         due("it is a deed", full.told(13), 1);
         due("drift(1), a reading too long", full.drift(1), 60);
         due("no reading", full.told(4), 0);
@@ -248,28 +248,15 @@ public final class DeedsTest {
         z.seed(Integer.MAX_VALUE);
         z.drift(1);
         // A drop of none from an empty row, if 7 was drawn, takes a second draw.
-        long seed = next(Integer.MAX_VALUE);
-        due("seed behind the greatest", z.seed(0), seed / 65536 % 8 < 6 ? seed : next(seed));
-    }
-
-    private static long next(long seed) {
-        return (seed * 1103515245L + 12345L) % (1L << 31);
+        long seed = Draws.next(Integer.MAX_VALUE);
+        due("seed behind the greatest", z.seed(0), seed / 65536 % 8 < 6 ? seed : Draws.next(seed));
     }
 
     /** A seed whose next one draws a kind of reader that is another if it is divided by a little less. */
     private static int edgeStart() {
         for (int seed = 0; seed < 1000000; seed++) {
-            long drawn = next(seed) / 65536 % 8;
-            if (drawn < 5 && next(seed) / 65535 % 8 == drawn + 1) {
-                return seed;
-            }
-        }
-        return NONE;
-    }
-
-    private static int startOf(int draw) {
-        for (int seed = 0; seed < 1000000; seed++) {
-            if (next(seed) / 65536 % 8 == draw) {
+            long drawn = Draws.next(seed) / 65536 % 8;
+            if (drawn < 5 && Draws.next(seed) / 65535 % 8 == drawn + 1) {
                 return seed;
             }
         }

@@ -61,6 +61,9 @@ public final class FaceTest {
         for (Class<?> inside : RowsAloud.class.getDeclaredClasses()) {
             checks.holds(inside.getSimpleName() + " is static and not public",
                 Modifier.isStatic(inside.getModifiers()) && !Modifier.isPublic(inside.getModifiers()));
+            for (Method m : inside.getDeclaredMethods()) {
+                checks.holds(inside.getSimpleName() + "." + m.getName() + " has a name of its own", !publicNames.contains(m.getName()));
+            }
         }
         checks.end();
     }
