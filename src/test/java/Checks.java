@@ -58,8 +58,12 @@ final class Checks {
     /** The row as a text. */
     static String row(RowsAloud x) {
         StringBuilder row = new StringBuilder();
-        for (int place = 0; place < 60 && x.at(place) != RowsAloud.NONE; place++) {
-            row.append(x.at(place));
+        for (int place = 0; place < 60; place++) {
+            int figure = x.at(place);
+            if (figure == RowsAloud.NONE) {
+                break;
+            }
+            row.append(figure);
         }
         return row.toString();
     }

@@ -74,10 +74,9 @@ public final class DeskEdgesTest {
         String[] others = {"r", "0123456789", "0123456789;", "0123456789;", "rw", "0123456789", "0123456789;", "0123456789;", "rw"};
         String named = "1 it cannot stand there (a letter that is no FIGURE, no ';' where one is due";
         for (int i = 0; i < begins.length; i++) {
-            Edge edge = sentence(named);
             for (char letter = 0; letter < 256; letter++) {
                 if (letter != ' ' && others[i].indexOf(letter) < 0) {
-                    edge.fed(begins[i] + letter).is("desk()", -11).is("fault()", begins[i].length());
+                    sentence(named).fed(begins[i] + letter).is("desk()", -11).is("fault()", begins[i].length());
                 }
             }
         }

@@ -6,6 +6,8 @@ import java.util.List;
  * run can be made again, with and without one of them: that is how it is seen that a call changes nothing.
  */
 final class Edge {
+    private static final int MOST_CALLS = 512;
+
     private final Edges edges;
     private final String sentence;
     private final List<Call> run = new ArrayList<>();
@@ -46,6 +48,9 @@ final class Edge {
     private int answer(String written) {
         Call call = Call.of(written);
         run.add(call);
+        if (run.size() > MOST_CALLS) {
+            edges.checks.holds(sentence + ": no more calls than are promised", false);
+        }
         return call.on(x);
     }
 
